@@ -376,10 +376,12 @@ public final class SewnRoads {
         if (!areTwoTowns(town, other) || !within(n, 0, MOST_WEEKS) || !within(s, 1, MOST_SEEDS)) {
             return NONE;
         }
+        if (!season.hasChance()) {
+            return staysJoined(town, other, n, plan.seed) ? s : 0;
+        }
         int good = 0;
         for (int i = 0; i < s; i++) {
-            lookAhead(n, plan.seed + i);
-            if (net.joins(later.wholeSeams(plan), town, other)) {
+            if (staysJoined(town, other, n, plan.seed + i)) {
                 good++;
             }
         }
@@ -473,6 +475,17 @@ public final class SewnRoads {
     private void lookAhead(int n, int seed) {
         later.copyFrom(now);
         season.passWeeks(later, n, seed);
+    }
+
+    /** While weeks go by nothing is sewn, so that what has come apart stays apart. */
+    private boolean staysJoined(int town, int other, int n, int seed) {
+        later.copyFrom(now);
+        boolean joined = net.joins(later.wholeSeams(plan), town, other);
+        for (int i = 0; i < n && joined; i++) {
+            season.passWeeks(later, 1, seed);
+            joined = net.joins(later.wholeSeams(plan), town, other);
+        }
+        return joined;
     }
 
     private int possibleCuts(int k) {
@@ -1461,6 +1474,11 @@ public final class SewnRoads {
                 wearSeams(state, isFrost(state.week, seed) ? 1 : 0);
                 state.week++;
             }
+        }
+
+        /** Whether one seed's frosts can differ from another's. */
+        boolean hasChance() {
+            return plan.frost > 0 && plan.frost < 100;
         }
 
         boolean isFrost(int week, int seed) {
