@@ -97,7 +97,6 @@ public final class SewnRoads {
     private final Rules rules = new Rules(plan);
     private final Net net = new Net(plan);
     private final Season season = new Season(plan, rules, net);
-    private final Thrift thrift = new Thrift(plan, rules, net);
     private final Search search = new Search(plan, net);
     private int faultPlace = NONE;
 
@@ -295,11 +294,12 @@ public final class SewnRoads {
         if (set < 0 || set >= 1 << plan.towns || !within(s, 1, MOST_SEWN) || !within(what, 0, 1)) {
             return NONE;
         }
-        int seams = thrift.cheapestSeams(set, s, now);
+        rules.fillSetCosts(s, now);
+        int seams = net.cheapestSeams(rules.setCost, set);
         if (seams < 0) {
             return NOT;
         }
-        return what == 0 ? thrift.cost[seams] : seams;
+        return what == 0 ? rules.setCost[seams] : seams;
     }
 
     public int surest(int town, int other) {
@@ -342,7 +342,7 @@ public final class SewnRoads {
         if (!within(n, 0, MOST_WEEKS)) {
             return NONE;
         }
-        return plan.seams == 0 ? NOT : thrift.evenLevel(n * plan.stitches, now);
+        return plan.seams == 0 ? NOT : now.evenLevel(plan, n * plan.stitches);
     }
 
     public int doubles(int town, int other, int s) {
@@ -1217,6 +1217,20 @@ public final class SewnRoads {
             }
             return sum;
         }
+
+        /** How well the least sewn seam is sewn once so many stitches are laid where they do most for it. */
+        int evenLevel(Plan plan, int stitches) {
+            for (int level = MOST_SEWN; level > 0; level--) {
+                int need = 0;
+                for (int i = 0; i < plan.seams; i++) {
+                    need += Math.max(0, level - sewn[i]);
+                }
+                if (need <= stitches) {
+                    return level;
+                }
+            }
+            return 0;
+        }
     }
 
     /** How all was ahead of each of the last things done. */
@@ -1259,6 +1273,8 @@ public final class SewnRoads {
     private static final class Rules {
         private final Plan plan;
         private final int[] vars = new int[VARS];
+        // The thread that each set of seams takes, the sets (bits) being the numbers of the row.
+        final int[] setCost = new int[1 << MAX_SEAMS];
 
         Rules(Plan plan) {
             this.plan = plan;
@@ -1299,6 +1315,17 @@ public final class SewnRoads {
                 sum += stitchCost(seam, sewn, state.week);
             }
             return sum;
+        }
+
+        void fillSetCosts(int well, State state) {
+            setCost[0] = 0;
+            for (int i = 0; i < plan.seams; i++) {
+                int alone = threadUpTo(i, well, state);
+                int bit = 1 << i;
+                for (int others = 0; others < bit; others++) {
+                    setCost[bit + others] = setCost[others] + alone;
+                }
+            }
         }
 
         private void look(int seam, int sewn, int week) {
@@ -1382,6 +1409,19 @@ public final class SewnRoads {
             for (int i = 0; i < plan.seams; i++) {
                 if (width[i] > best && joins(seamsAsWide(width, width[i]), town, other)) {
                     best = width[i];
+                }
+            }
+            return best;
+        }
+
+        /** The set of seams that joins all these towns and costs least; NONE: they can't be joined. */
+        int cheapestSeams(int[] setCost, int towns) {
+            int one = towns & -towns;
+            int best = NONE;
+            for (int seams = 0; seams < 1 << plan.seams; seams++) {
+                boolean better = best < 0 || setCost[seams] < setCost[best];
+                if (better && (towns & ~reach(seams, one)) == 0) {
+                    best = seams;
                 }
             }
             return best;
@@ -1600,63 +1640,6 @@ public final class SewnRoads {
         private static int mixed(int h, int with) {
             int next = (h ^ with) * 1103515245 + 12345;
             return next ^ next >>> 15;
-        }
-    }
-
-    /** How stitches are laid so that they cost least, or do most. */
-    private static final class Thrift {
-        private final Plan plan;
-        private final Rules rules;
-        private final Net net;
-        // What each set of seams costs, the sets being the numbers of the row.
-        final int[] cost = new int[1 << MAX_SEAMS];
-
-        Thrift(Plan plan, Rules rules, Net net) {
-            this.plan = plan;
-            this.rules = rules;
-            this.net = net;
-        }
-
-        /** The seams (bits) that join all towns of a set for the least thread; NONE: they can't be joined. */
-        int cheapestSeams(int towns, int well, State state) {
-            fillCosts(well, state);
-            int best = NONE;
-            for (int seams = 0; seams < 1 << plan.seams; seams++) {
-                if ((best < 0 || cost[seams] < cost[best]) && joinsAll(seams, towns)) {
-                    best = seams;
-                }
-            }
-            return best;
-        }
-
-        /** How well the least sewn seam is sewn once so many stitches are laid on seams. */
-        int evenLevel(int stitches, State state) {
-            for (int level = MOST_SEWN; level > 0; level--) {
-                int need = 0;
-                for (int i = 0; i < plan.seams; i++) {
-                    need += Math.max(0, level - state.sewn[i]);
-                }
-                if (need <= stitches) {
-                    return level;
-                }
-            }
-            return 0;
-        }
-
-        private void fillCosts(int well, State state) {
-            cost[0] = 0;
-            for (int i = 0; i < plan.seams; i++) {
-                int alone = rules.threadUpTo(i, well, state);
-                int bit = 1 << i;
-                for (int seams = 0; seams < bit; seams++) {
-                    cost[bit + seams] = cost[seams] + alone;
-                }
-            }
-        }
-
-        private boolean joinsAll(int seams, int towns) {
-            int one = towns & -towns;
-            return (towns & ~net.reach(seams, one)) == 0;
         }
     }
 

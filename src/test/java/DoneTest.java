@@ -26,6 +26,7 @@ public final class DoneTest {
         hold();
         restore();
         count();
+        fullText();
         CHECK.end();
     }
 
@@ -365,6 +366,16 @@ public final class DoneTest {
             count(12) = 1
             weeks(60) = 60
             count(12) = 1
+            text frost 1; town a; seed 45;
+            count(12) = 1
+            weeks(1) = 1
+            count(12) = 0
+            text frost 99; town a;
+            weeks(5) = 5
+            count(12) = 0
+            text frost 100; town a;
+            weeks(5) = 5
+            count(12) = 1
             text frost 16; town a;
             count(12) = 0
             weeks(2) = 2
@@ -491,6 +502,69 @@ public final class DoneTest {
             restore(1) = 1
             count(4) = 0
             restore(2) = 0
+            """);
+    }
+
+    /** As much of each sort as there may be: a ring of seven towns with three chords. */
+    private static void fullText() {
+        SCRIPT.run(36, """
+            text town a; town b; town c; town d; town e; town f; town g; seam a b 2 9; seam b c 2 9; seam c d 2 9; seam d e 2 9; \
+            seam e f 2 9; seam f g 2 9; seam g a 2 9; seam a c 5 9; seam b d 5 9; seam c e 5 9; woman h 10; woman i 10; woman j 10; \
+            cart k a b 1; cart l b c 2; cart m c d 3; cart n d a 4;
+            count(0) = 7
+            count(1) = 10
+            count(2) = 3
+            count(3) = 4
+            count(6) = 1023
+            count(13) = 30
+            count(14) = 90
+            seam(9, 0) = 2
+            seam(9, 1) = 4
+            seam(10, 0) = -1
+            cart(3, 0) = 3
+            cart(3, 2) = 4
+            cart(4, 0) = -1
+            far(0, 3) = 6
+            hops(0, 3) = 2
+            hops(0, 4) = 2
+            joined(6) = 127
+            hangs() = 0
+            rows() = 2
+            surest(6, 3) = 9
+            holds(0, 3) = 9
+            soon(0, 4) = 2
+            doubles(0, 3, 1) = -2
+            march(0) = 9
+            march(1) = 12
+            march(60) = 99
+            sewing(127, 9, 0) = 0
+            sewing(127, 9, 1) = 63
+            sewing(127, 10, 0) = 6
+            sewing(127, 10, 1) = 63
+            sewing(128, 10, 1) = -1
+            cuts(0, 0) = 10
+            cuts(0, 1) = 1023
+            tell(0, 1, 6) = 0
+            cuts(1, 1) = 0
+            tell(0, 1, 7) = 1
+            forget() = 2
+            tell(0, 1, 7) = 0
+            cuts(1, 1) = 1
+            year(0, 1, 8, 20) = 20
+            year(0, 1, 9, 20) = 0
+            send(0) = 1
+            send(1) = 1
+            send(2) = 1
+            send(3) = 1
+            count(7) = 15
+            weeks(1) = 1
+            count(7) = 8
+            cart(3, 3) = 2
+            weeks(2) = 3
+            cart(3, 3) = 0
+            cart(3, 5) = 6
+            cart(3, 7) = 1
+            count(14) = 60
             """);
     }
 

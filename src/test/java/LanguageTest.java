@@ -68,7 +68,7 @@ public final class LanguageTest {
             publicNames.add(shape.substring(0, shape.indexOf('/')));
         }
         List<Class<?>> all = new ArrayList<>(List.of(SewnRoads.class.getDeclaredClasses()));
-        CHECK.due("language: some twelve classes", all.size() <= 12, true);
+        CHECK.due("language: some twelve classes", all.size() < 12, true);
         for (Class<?> c : all) {
             CHECK.due("language: " + c + " is static", Modifier.isStatic(c.getModifiers()), true);
             CHECK.due("language: " + c + " holds no class", c.getDeclaredClasses().length, 0);

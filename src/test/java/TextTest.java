@@ -188,7 +188,7 @@ public final class TextTest {
         fault(2, 84, "costs = " + ifs.repeat(4) + "if");
         fault(0, -1, "costs = ((((((1))))));");
         fault(0, -1, "costs = ((((((1))))))+((((((1))))))*(1);");
-        fault(0, -1, "costs = if ((((((1))))))<((((((1)))))) then 2 else ((((((1))))));");
+        fault(0, -1, "costs = if ((((((1))))))<((((((1)))))) then ((((((2)))))) else ((((((1))))));");
         fault(2, 14, "costs = (((((((1)))))));");
         fault(2, 14, "costs = (((((((");
         fault(1, 15, "costs = ((((((1(");
@@ -221,6 +221,11 @@ public final class TextTest {
         fault(3, 37, "town a; town b; seam a b 1 1; seam b a 2 2;");
         fault(3, 17, "town a; cart c a a 1;");
         fault(0, -1, "town a; town b; cart c a b 1; cart d a b 1; cart e b a 1;");
+        String names = towns(7) + "woman h 1;woman i 1;woman j 1;cart k a b 1;cart l a b 1;cart m a b 1;";
+        fault(0, -1, names + "cart n a b 1;");
+        for (char name = 'a'; name <= 'm'; name++) {
+            fault(3, 123, names + "cart " + name + " a b 1;");
+        }
     }
 
     private static void names() {
@@ -376,6 +381,10 @@ public final class TextTest {
         law("20-5-3", 12);
         law("100/5/2", 10);
         law("7*2/3", 4);
+        law("7/1*1", 7);
+        law("0" + "+0".repeat(191) + "+7", 7);
+        law("7" + "-0".repeat(191) + "*1", 7);
+        law("if 0" + "+0".repeat(92) + "<1 then 7" + "+0".repeat(96) + " else 1", 7);
         law("7/3*2", 4);
         law("(2+3)*4", 20);
         law("2*(3+4)*(1+1)", 28);

@@ -222,9 +222,12 @@ public final class WouldBeTest {
             """);
         // Frosts and carts are not looked at; the week is.
         SCRIPT.run(22, """
-            text town a; town b; town c; seam a b 9 5; seam b c 9 5; wears = frosty*99+carted+week*99; frost 100; cart x a c 9;
+            text town a; town b; town c; seam a b 9 5; seam b c 9 5; wears = frosty*99+carted*99+1; frost 100; cart x a c 9;
             send(0) = 1
             soon(0, 2) = 2
+            holds(0, 2) = 5
+            doubles(0, 2, 5) = -2
+            doubles(0, 1, 5) = 0
             weeks(1) = 1
             soon(0, 2) = -2
             text town a; town b; town c; seam a b 9 5; seam b c 9 5; wears = week*99;
@@ -256,7 +259,7 @@ public final class WouldBeTest {
             holds(0, 1) = -2
             weeks(1) = 1
             holds(0, 1) = 200
-            text town a; town b; seam a b 9 99; frost 100; wears = frosty*9+1; cart c a b 9;
+            text town a; town b; seam a b 9 99; frost 100; wears = frosty*9+carted*9+1; cart c a b 9;
             send(0) = 1
             holds(0, 1) = 99
             """);
@@ -435,6 +438,10 @@ public final class WouldBeTest {
             year(0, 1, 1, 2) = 0
             text town a; town b; seam a b 7 50; wears = frosty*50; seed 9999; frost 20;
             year(0, 1, 1, 2) = 1
+            text town a; town b; seam a b 7 50; wears = frosty*50; seed 45; frost 1;
+            year(0, 1, 1, 4) = 3
+            text town a; town b; seam a b 7 50; wears = frosty*50; seed 192; frost 99;
+            year(0, 1, 1, 1) = 1
             text town a; town b; seam a b 7 50; wears = frosty*50; frost 100;
             year(0, 1, 1, 20) = 0
             year(0, 1, 0, 20) = 20
