@@ -356,7 +356,7 @@ public final class SewnRoads {
         if (!isSeam(seam) || !within(n, 0, MOST_WEEKS)) {
             return NONE;
         }
-        lookAhead(n, plan.seed);
+        lookAhead(n);
         return later.sewn[seam];
     }
 
@@ -364,7 +364,7 @@ public final class SewnRoads {
         if (!isCart(cart) || !within(n, 0, MOST_WEEKS) || !within(what, 0, 2)) {
             return NONE;
         }
-        lookAhead(n, plan.seed);
+        lookAhead(n);
         if (what == 0) {
             return later.cartField(cart, AT);
         }
@@ -472,9 +472,9 @@ public final class SewnRoads {
         return sum;
     }
 
-    private void lookAhead(int n, int seed) {
+    private void lookAhead(int n) {
         later.copyFrom(now);
-        season.passWeeks(later, n, seed);
+        season.passWeeks(later, n, plan.seed);
     }
 
     /** While weeks go by nothing is sewn, so that what has come apart stays apart. */
@@ -1485,7 +1485,7 @@ public final class SewnRoads {
 
     /** How weeks go by. */
     private static final class Season {
-        private static final int FROST_LOT = 107;
+        private static final int LOT_BEGINS = 107;
 
         private final Plan plan;
         private final Rules rules;
@@ -1522,7 +1522,7 @@ public final class SewnRoads {
         }
 
         boolean isFrost(int week, int seed) {
-            return plan.frost > 0 && lot(100, seed, 4 * week) < plan.frost;
+            return plan.frost > 0 && lotOfHundred(seed, 4 * week) < plan.frost;
         }
 
         void fillLives(State state) {
@@ -1632,9 +1632,9 @@ public final class SewnRoads {
             }
         }
 
-        private static int lot(int n, int seed, int which) {
-            int h = mixed(mixed(seed, FROST_LOT), which);
-            return (h >>> 1) % n;
+        private static int lotOfHundred(int seed, int which) {
+            int h = mixed(mixed(seed, LOT_BEGINS), which);
+            return (h >>> 1) % 100;
         }
 
         private static int mixed(int h, int with) {
