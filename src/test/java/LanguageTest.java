@@ -27,6 +27,7 @@ public final class LanguageTest {
 
     public static void main(String[] args) throws IOException {
         face();
+        faceOfDocument();
         String code = withoutCommentsAndTexts(Files.readString(Path.of("src/main/java/SewnRoads.java")));
         for (String word : KEPT_OUT) {
             boolean letters = Character.isLetter(word.charAt(0)) && !word.equals("Exact");
@@ -49,17 +50,36 @@ public final class LanguageTest {
                 String shape = m.getName() + "/" + m.getParameterCount() + (answers ? "?" : "");
                 CHECK.due("face: " + shape, want.contains(shape), true);
                 CHECK.due("face: " + shape + " is public", Modifier.isPublic(m.getModifiers()), true);
+                for (Class<?> type : m.getParameterTypes()) {
+                    CHECK.due("face: " + shape + " takes ints", type == int.class, true);
+                }
+                CHECK.due("face: " + shape + " answers", answers || m.getReturnType() == int.class, true);
                 CHECK.due("face: " + shape + " is of the object", Modifier.isStatic(m.getModifiers()), false);
             }
         }
         CHECK.due("face: methods", publics, want.size());
         CHECK.due("face: constructors", SewnRoads.class.getDeclaredConstructors().length, 1);
+        CHECK.due("face: public constructors without parameters", SewnRoads.class.getConstructors()[0].getParameterCount(), 0);
         CHECK.due("face: the class is final", Modifier.isFinal(SewnRoads.class.getModifiers()), true);
         for (Field f : SewnRoads.class.getDeclaredFields()) {
             boolean fits = Modifier.isPrivate(f.getModifiers()) || f.getName().equals("NONE");
             CHECK.due("face: field " + f.getName(), fits, true);
         }
         CHECK.due("face: NONE", SewnRoads.NONE, -1);
+    }
+
+    private static void faceOfDocument() {
+        String document = Document.wholeText();
+        if (document.isEmpty()) {
+            return;
+        }
+        StringBuilder shapes = new StringBuilder();
+        Matcher m = Pattern.compile("    public (int|boolean) (\\w+)\\(([^)]*)\\);").matcher(document);
+        while (m.find()) {
+            int parameters = m.group(3).isEmpty() ? 0 : m.group(3).split(",").length;
+            shapes.append(m.group(2)).append('/').append(parameters).append(m.group(1).equals("int") ? " " : "? ");
+        }
+        CHECK.due("face: that of the document is " + shapes, shapes.toString().strip().equals(FACE), true);
     }
 
     private static void classes() {

@@ -1,18 +1,14 @@
-import java.io.IOException;
 import java.lang.reflect.Method;
-import java.nio.file.Files;
-import java.nio.file.Path;
 import java.util.Arrays;
 
 /**
  * Runs of calls written as lines, on a fresh object each:
- * "text T" reads T, which has no fault; "fault N P T" reads T, whose fault is N at P; "feed T" has T come onto the tape;
+ * "text T" reads T, which has no fault; "fault N P T" reads T, whose fault is N at P; "fault N @ T" reads T without its @,
+ * where the fault N is; "feed T" has T come onto the tape;
  * "call(1, 2) = 3" is a call and the answer that is due (true is 1, false 0); "times 5 call(1, 2)" is a call five times,
  * whose answers are not looked at. In a text \t, \n, \r and \xHH stand for bytes.
  */
 final class Script {
-    private static final Path DOCUMENT = Path.of("../shared/DOC.md");
-
     private final Check check;
     private String document;
 
@@ -29,7 +25,7 @@ final class Script {
     /** Looks whether the document, where it can be read, has these words. */
     void quoted(String sentence) {
         if (document == null) {
-            document = documentText();
+            document = Document.wholeText();
         }
         if (!document.isEmpty()) {
             check.due("the document says <" + sentence + ">", document.contains(sentence), true);
@@ -48,7 +44,10 @@ final class Script {
                 faultAs(label, x, 0, -1, row.substring(5));
             } else if (row.startsWith("fault ")) {
                 String[] words = row.split(" ", 4);
-                faultAs(label, x, Integer.parseInt(words[1]), Integer.parseInt(words[2]), words.length > 3 ? words[3] : "");
+                String text = words.length > 3 ? words[3] : "";
+                boolean marked = words[2].equals("@");
+                int place = marked ? bytes(text).indexOf('@') : Integer.parseInt(words[2]);
+                faultAs(label, x, Integer.parseInt(words[1]), place, marked ? text.replace("@", "") : text);
             } else if (row.startsWith("feed ")) {
                 Check.feed(x, bytes(row.substring(5)));
             } else if (row.startsWith("times ")) {
@@ -87,14 +86,6 @@ final class Script {
             return got instanceof Boolean b ? b ? 1 : 0 : (Integer) got;
         } catch (ReflectiveOperationException e) {
             throw new IllegalStateException(call, e);
-        }
-    }
-
-    private static String documentText() {
-        try {
-            return Files.isReadable(DOCUMENT) ? Files.readString(DOCUMENT) : "";
-        } catch (IOException e) {
-            return "";
         }
     }
 
