@@ -26,6 +26,7 @@ public final class DocumentPromisesTest {
         DOC.says(1, "No TOWNS, no SEAMS.", """
             count(0) = 0
             count(1) = 0
+            count(5) = 100
             joined(0) = -1
             seam(0, 2) = -1
             """);
@@ -430,6 +431,7 @@ public final class DocumentPromisesTest {
         DOC.says(26, "DOUBLE (s 1 .. 99); -2: none; NONE: no such ones, one and the same TOWN.", LINE + """
             wears = 1 + which;
             doubles(0, 1, 5) = 0
+            doubles(0, 1, 99) = 0
             doubles(1, 2, 1) = 1
             doubles(0, 3, 3) = 3
             sew(3, 4) = 4
@@ -492,6 +494,10 @@ public final class DocumentPromisesTest {
             year(0, 0, 1, 1) = -1
             year(0, 4, 1, 1) = -1
             year(-1, 0, 1, 1) = -1
+            text town a; town b; town c; seam a b 1 3;
+            year(0, 1, 2, 20) = 20
+            year(0, 1, 3, 20) = 0
+            year(0, 2, 0, 20) = 0
             """);
     }
 
@@ -599,6 +605,10 @@ public final class DocumentPromisesTest {
             restore(1) = 1
             count(4) = 0
             count(11) = 1
+            hold(0) = 1
+            cut(1) = 6
+            restore(0) = 1
+            seam(1, 3) = 6
             """);
     }
 

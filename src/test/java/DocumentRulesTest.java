@@ -69,6 +69,16 @@ public final class DocumentRulesTest {
             seam(0, 5) = 5
             seam(0, 6) = 7
             toll(0, 99) = 1
+            text town a; town b; seam a b 9 99; cart c a b 5; frost 100; costs = frosty + carted + load + 3; wears = new + load + frosty + carted; puckers = frosty + carted + new + load + 2; toll = frosty + carted + new + 1;
+            send(0) = 1
+            weeks(1) = 1
+            seam(0, 3) = 93
+            seam(0, 4) = 3
+            seam(0, 5) = 0
+            seam(0, 6) = 7
+            toll(0, 99) = 1
+            seam(0, 4) = 3
+            seam(0, 6) = 7
             text town a; town b; seam a b 99 99; costs = week; wears = week; puckers = week; toll = week;
             weeks(3) = 3
             seam(0, 3) = 96
@@ -424,7 +434,7 @@ public final class DocumentRulesTest {
 
     private static void whileAllWears() {
         DOC.says(22, "SOON from a TOWN to a TOWN, one SEAM a week, or staying, while all wears, without FROSTS, nothing carted: the fewest WEEKS (0 .. 40).", """
-            text town a; town b; town c; town d; seam a b 9 1; seam b c 9 2; seam c d 9 2; seam a d 9 0; frost 100; wears = 1 + frosty * 50;
+            text town a; town b; town c; town d; seam a b 9 1; seam b c 9 2; seam c d 9 2; seam a d 9 0; frost 100; wears = 1 + (frosty + carted) * 50;
             soon(0, 0) = 0
             soon(0, 1) = 1
             soon(0, 2) = 2
@@ -439,7 +449,7 @@ public final class DocumentRulesTest {
             soon(0, 3) = 1
             """);
         DOC.says(23, "HOLDS between two TOWNS: behind how many WEEKS (0 .. 200), likewise, they are joined no more.", RING + """
-            frost 100; wears = 1 + frosty * 50;
+            frost 100; wears = 1 + (frosty + carted) * 50;
             holds(0, 1) = 9
             holds(0, 2) = 8
             holds(0, 3) = 7
@@ -583,7 +593,7 @@ public final class DocumentRulesTest {
             cut(3) = 6
             cuts(1, 1) = 0
             """);
-        // Of the way a - b the five cuts leave 21, 5, 5, 5, 5; of a - c 15, 15, 11, 11, 11; of a - e 17, 17, 17, 27, none.
+        // Behind the five cuts a - b is 21, 5, 5, 5, 5 long, a - c 15, 15, 11, 11, 11, a - e 17, 17, 17, 27, not joined.
         DOC.says(33, "ASK: the two TOWNS whose way, once it is measured, leaves fewest, at worst; of alike ones the first by the lesser TOWN, then by the other one.", RING + """
 
             ask(0) = 2

@@ -322,6 +322,7 @@ public final class DocumentTextTest {
             fault 2 @ costs = ((((((@(1)))))));
             fault 2 @ costs = 1 * (2 + (((((3 - @(1)))))));
             fault 2 @ wears = if 1 < ((((((@(2))))))) then 3 else 4;
+            text toll = if ((((((1)))))) < ((((((2)))))) then ((((((3)))))) else ((((((4))))));
             """);
     }
 
@@ -398,7 +399,8 @@ public final class DocumentTextTest {
             """);
         DOC.says(4, "else it is in place of the one ahead: week 0, SEAMS and THREAD as told, CARTS at home; nothing can be undone, nothing is TOLD, "
             + "SLOTS hold nothing.", """
-            text town a; town b; seam a b 9 9; cart c a b 5; woman w 3; wears = 2; thread 50;
+            text town a; town b; seam a b 9 9; cart c a b 5; woman w 3; wears = 2; thread 50; frost 14; seed 9999;
+            count(12) = 1
             send(0) = 1
             weeks(1) = 1
             sew(0, 1) = 1
@@ -411,6 +413,7 @@ public final class DocumentTextTest {
             seam(0, 3) = 9
             seam(0, 5) = 1
             count(2) = 0
+            count(12) = 0
             count(13) = 0
             cart(0, 3) = 0
             cart(0, 5) = 0
@@ -421,6 +424,10 @@ public final class DocumentTextTest {
             cuts(1, 0) = -1
             count(11) = 0
             restore(0) = 0
+            text frost 14;
+            count(12) = 0
+            text frost 53;
+            count(12) = 1
             """);
     }
 }
