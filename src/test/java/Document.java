@@ -25,8 +25,12 @@ final class Document {
         script.says(promise, words, lines);
     }
 
-    /** The document's next words, whose runs stand elsewhere. */
-    void quote(String words) {
+    /** Words of the document that were gone past already, and one more run. */
+    void again(int promise, String words, String lines) {
+        script.says(promise, words, lines);
+    }
+
+    private void quote(String words) {
         if (part.isEmpty()) {
             return;
         }

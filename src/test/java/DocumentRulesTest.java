@@ -537,7 +537,7 @@ public final class DocumentRulesTest {
             cartIn(0, 0, 1) = 0
             then(0, 1) = 6
             """);
-        // The lots of weeks 0 and 1: by the seed 0 they are 52 and 79, by 1 52 and 29; by 7 78 and 18.
+        // The lots of weeks 0 to 5: by the seed 0 they are 52, 79, 15, 58, 91, 99, by 1 52, 29, 34, 43, 43, 64; of week 0: by 9999 13, by 10000 47.
         DOC.says(29, "YEAR by s SEEDS (1 .. 20) from the text's SEED on: in how many of them two TOWNS are joined behind n WEEKS (0 .. 60).", """
             text town a; town b; seam a b 1 3; frost 30; wears = 1 + frosty * 2; seed 0;
             year(0, 1, 0, 20) = 20
@@ -545,6 +545,9 @@ public final class DocumentRulesTest {
             year(0, 1, 2, 1) = 1
             year(0, 1, 2, 2) = 1
             year(0, 1, 3, 20) = 0
+            text town a; town b; seam a b 1 6; frost 99; wears = frosty; seed 0;
+            year(0, 1, 6, 1) = 1
+            year(0, 1, 6, 2) = 1
             text town a; town b; seam a b 1 3; frost 48; wears = frosty * 9; seed 9999;
             year(0, 1, 1, 1) = 0
             year(0, 1, 1, 2) = 0

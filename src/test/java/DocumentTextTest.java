@@ -313,6 +313,10 @@ public final class DocumentTextTest {
             fault 1 @ costs = 1 + 2 @costs = 3;
             """);
         DOC.says(4, "2 ROOM: a 401st TOKEN;", "text " + SEEDS + "\nfault 2 @ " + SEEDS + "seed @1;\nfault 2 @ " + SEEDS + "seed @1 1;");
+        // A law of 388 tokens behind the twelve of ONE, and one token more.
+        DOC.again(4, "a 401st TOKEN", ONE + "costs = 3" + " + 0".repeat(191) + " + 5 ;\nseam(0, 4) = 8");
+        DOC.again(4, "a 401st TOKEN", "fault 2 @ town a; town b; seam a b 9 4; costs = 3" + " + 0".repeat(191) + " + 5 * @1;");
+        DOC.again(4, "a 401st TOKEN", "text costs = 3" + " - 0".repeat(198) + ";");
         DOC.says(4, "one more of a sort than told (at its first TOKEN);", "fault 2 @ " + SEVEN + "@town a;\nfault 2 @ " + SEVEN + "@town 5\n"
             + "fault 2 @ " + SEVEN + TEN + "@seam b g 100 100;");
         DOC.says(4, "a 5th if of a LAW (at it);", "text costs = " + IF.repeat(4) + "4; wears = " + IF.repeat(4) + "4;\nfault 2 @ costs = "
